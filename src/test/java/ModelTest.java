@@ -7,8 +7,7 @@ import java.util.TreeMap;
  * that follows the document's words and shares no way of working with the class.
  */
 public final class ModelTest {
-    private static final int RUNS = 1500;
-    private static final int CALLS = 480;
+    private static final int RUNS = 1200;
 
     private static int wrong = 0;
     private static long seed = 20261115L;
@@ -135,43 +134,44 @@ public final class ModelTest {
             return true;
         }
 
-        // The steps are drawn once for each specification, or the runs would take too long.
-        boolean[][][] drawn = null;
+        // All is drawn once for each specification, or the runs would take too long.
+        private boolean[][][] drawn = null;
+        private boolean[][] steps = null;
+        private boolean[][] able = null;
 
-        boolean drawnLeads(int a, int s, int t) {
-            if (drawn == null) {
-                drawn = new boolean[4][total()][total()];
-                for (int b = 0; b < 4; b++) {
-                    for (int i = 0; i < total(); i++) {
-                        boolean runs = there(b) && isTrue(actions[b].guard, i);
-                        for (int j = 0; runs && j < total(); j++) {
-                            drawn[b][i][j] = leads(b, i, j);
-                        }
+        private void draw() {
+            if (drawn != null) {
+                return;
+            }
+            drawn = new boolean[4][total()][total()];
+            steps = new boolean[total()][total()];
+            able = new boolean[4][total()];
+            for (int s = 0; s < total(); s++) {
+                steps[s][s] = true;
+                for (int a = 0; a < 4; a++) {
+                    boolean runs = there(a) && isTrue(actions[a].guard, s);
+                    for (int t = 0; runs && t < total(); t++) {
+                        drawn[a][s][t] = leads(a, s, t);
+                        steps[s][t] |= drawn[a][s][t];
+                        able[a][s] |= t != s && drawn[a][s][t];
                     }
                 }
             }
-            return drawn[a][s][t];
         }
 
         boolean step(int s, int t) {
-            boolean leads = s == t;
-            for (int a = 0; a < 4; a++) {
-                leads |= drawnLeads(a, s, t);
-            }
-            return leads;
+            draw();
+            return steps[s][t];
         }
 
         boolean enabled(int a, int s) {
-            for (int t = 0; t < total(); t++) {
-                if (t != s && drawnLeads(a, s, t)) {
-                    return true;
-                }
-            }
-            return false;
+            draw();
+            return able[a][s];
         }
 
         boolean isTaken(int a, int s, int t) {
-            return s != t && drawnLeads(a, s, t);
+            draw();
+            return s != t && drawn[a][s][t];
         }
 
         int[] depths() {
@@ -352,7 +352,14 @@ public final class ModelTest {
         /** For each guess of the strong actions that are not enabled any more: components. */
         private boolean[] byGuesses(boolean[] calm) {
             boolean[] home = new boolean[total()];
+            int strongOnes = 0;
+            for (int a = 0; a < 4; a++) {
+                strongOnes += there(a) && actions[a].fairness == 2 ? 1 << a : 0;
+            }
             for (int given = 0; given < 16; given++) {
+                if ((given & ~strongOnes) != 0) {
+                    continue;
+                }
                 boolean[] within = calm.clone();
                 for (int s = 0; s < total(); s++) {
                     for (int a = 0; a < 4; a++) {
@@ -611,7 +618,11 @@ public final class ModelTest {
         if (below(2) == 0) {
             token(27);
         }
-        tokens(25, 23, 10 + u, values[u], 23, 10 + v, values[v]);
+        if (below(2) == 0) {
+            tokens(25, 23, 10 + u, values[u], 23, 10 + v, values[v]);
+        } else {
+            tokens(25, 23, 10, values[0], 25, 23, 11, values[1], 23, 12, values[2]);
+        }
     }
 
     private static void oneAction(int a) {
@@ -645,9 +656,9 @@ public final class ModelTest {
         due("fair " + a + how, x.fair(a, how), m.fair(a, how));
     }
 
-    private static void specify(int largest) {
+    private static void specify(int least, int largest) {
         for (int v = 0; v < 3; v++) {
-            int n = 1 + below(largest);
+            int n = least + below(largest - least + 1);
             due("variable " + v + n, x.variable(v, n), m.variable(v, n));
         }
         for (int a = 0; a < 4; a++) {
@@ -685,14 +696,21 @@ public final class ModelTest {
     }
 
     private static void ask() {
-        int total = m.total();
         for (int what = -1; what < 7; what++) {
             due("count " + what, x.count(what), m.count(what));
         }
-        for (int i = 0; i < 6; i++) {
-            int s = mostly(total);
+        for (int i = 0; i < 12; i++) {
+            askOne();
+        }
+    }
+
+    private static void askOne() {
+        int total = m.total();
+        int s = mostly(total);
+        if (below(2) == 0) {
             int what = mostly(6);
             due("state " + s + " " + what, x.state(s, what), m.state(s, what));
+        } else {
             int a = mostly(4);
             int t = mostly(total);
             due("leads " + a + " " + s + " " + t, x.leads(a, s, t), m.leads(a, s, t));
@@ -716,9 +734,7 @@ public final class ModelTest {
         for (int k = -1; k <= m.trace.size(); k++) {
             due("trace " + k, x.trace(k), m.trace(k));
         }
-        for (int k = -1; k <= m.failing.size(); k++) {
-            due("failing " + k, x.failing(k), m.failing(k));
-        }
+        someFailing();
         for (int i = 0; i < 4; i++) {
             List<Integer> was = new ArrayList<>(m.failing);
             int a = below(4);
@@ -727,25 +743,43 @@ public final class ModelTest {
             due("fails", x.fails(), m.fails());
             note("fairness " + (was.equals(m.failing) ? "no matter" : "a matter"));
         }
+        someFailing();
+    }
+
+    private static void allFailing() {
         for (int k = -1; k <= m.failing.size(); k++) {
             due("failing " + k, x.failing(k), m.failing(k));
         }
     }
 
-    private static void run(int largest) {
+    private static void someFailing() {
+        if (m.failing.size() < 12) {
+            allFailing();
+            return;
+        }
+        for (int i = 0; i < 12; i++) {
+            int k = mostly(m.failing.size());
+            due("failing " + k, x.failing(k), m.failing(k));
+        }
+    }
+
+    private static void run(int least, int largest) {
         x = new FairChecker();
         m = new Model();
         calls = 0;
         told = new ArrayList<>();
-        specify(largest);
-        ask();
-        // The most that one turn can ask on top: three times all states.
-        while (calls + 3 * m.total() + 100 < CALLS && wrong == 0) {
+        specify(least, largest);
+        if (below(2) == 0) {
+            ask();
+        }
+        while (calls < 200 && wrong == 0) {
             judge();
             changeOne();
             changeOne();
+            askOne();
         }
         if (wrong == 0) {
+            allFailing();
             ask();
         }
         if (calls > 512) {
@@ -755,7 +789,7 @@ public final class ModelTest {
 
     public static void main(String[] args) {
         for (int i = 0; i < RUNS && wrong == 0; i++) {
-            run(i % 20 == 0 ? 5 : i % 3 == 0 ? 2 : 3);
+            run(i % 8 == 0 ? 4 : 1, i % 8 < 2 ? 5 : i % 8 < 4 ? 2 : 3);
         }
         System.out.println(seen);
         System.out.println(wrong == 0 ? "all answers are as due" : "answers are not as due");

@@ -529,6 +529,20 @@ public final class PromisesTest {
         for (int w : WRONG) {
             due("what " + w, x.state(0, w), -1);
         }
+
+        // Each of them is asked first after a change.
+        x = sized(2, 1, 1);
+        guard(x, 0, 1);
+        due("enabled, before the effect", x.state(0, 1), 0);
+        becomes(x, 0, 0, 1);
+        due("enabled, after the effect", x.state(0, 1), 1);
+        begin(x, 10);
+        due("depth, with INIT", x.state(0, 0), -1);
+        due("none", x.init(), true);
+        due("depth, without INIT", x.state(0, 0), 0);
+        due("guards", x.state(0, 2), 1);
+        due("drop", x.drop(0), true);
+        due("no guards", x.state(0, 2), 0);
     }
 
     private static void leads() {
