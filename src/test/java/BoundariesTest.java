@@ -412,6 +412,37 @@ public final class BoundariesTest {
         new Run().sizes(5, 1, 1).guard(0, 1).becomes(0, 0, 28, 0, 1, 28, 0, 2, 28, 0, 3, 20, 1, 3).leadsTo(0, 0, 5, 4);
     }
 
+    /** Full expressions everywhere, the later ones set first or last: none may run into another. */
+    private static void twelveTokensSideBySide() {
+        quote("Terms", "at most 12 tokens");
+        int[] yes = list(20, 20, 0, 0, 27, 27, 27, 27, 27, 27, 27, 0);
+        int[] grows = list(22, 1, 20, 27, 27, 27, 27, 27, 27, 27, 0, 10);
+        for (int turn = 0; turn < 2; turn++) {
+            Run r = new Run().sizes(2, 2, 2);
+            for (int i = 0; i < 4; i++) {
+                int a = turn == 0 ? i : 3 - i;
+                r.guard(a, 1);
+                for (int j = 0; j < 3; j++) {
+                    int v = turn == 0 ? j : 2 - j;
+                    grows[11] = 10 + v;
+                    r.becomes(a, v, grows);
+                }
+            }
+            r.holds(yes).begins(yes).count(1, 8);
+            for (int a = 0; a < 4; a++) {
+                r.leadsTo(a, 2, 8, 5).state(2, 2, 15);
+            }
+            r.failFor(list(0), range(0, 8)).holds(27, 27, 27, 27, 27, 27, 27, 27, 27, 27, 27, 1).count(1, 8);
+            r.failFor(list(0)).begins(27, 27, 27, 27, 27, 27, 27, 27, 27, 27, 27, 0).failFor(list(0)).state(7, 2, 15);
+        }
+        // A guard that is full beside one that is short, from the last one to the first.
+        Run r = new Run();
+        for (int a = 3; a >= 0; a--) {
+            r.guard(a, a % 2 == 0 ? yes : list(0)).state(0, 2, list(5, 4, 4, 0)[a]);
+        }
+        r.holds(yes).state(0, 2, 5).begins(27, 27, 27, 27, 27, 27, 27, 27, 27, 27, 27, 1).draft(0).fails(0);
+    }
+
     private static void intsThatWrap() {
         quote("Terms", "worked out with the values of a state, in ints that wrap");
         // Twelve tokens come no farther than to 4^6 and -4^5: nothing is cut off on the way there.
@@ -565,6 +596,9 @@ public final class BoundariesTest {
         r.guard(1, 23, 10, 0).becomes(1, 0, 3).state(3, 0, 1).state(2, 0, 2).count(3, 2).count(2, 4);
         r.begins(26, 23, 10, 0, 23, 10, 2).state(2, 0, 0).state(3, 0, 1).state(1, 0, 1).count(3, 1);
         r.begins(23, 10, 4).state(4, 0, 0).state(0, 0, -1).counts(5, 1, 1, 0, 1, 0);
+        // From the last state back to the first, which is the deepest.
+        r = new Run().sizes(5, 1, 1).begins(23, 10, 4).guard(0, 10).becomes(0, 0, 21, 10, 1);
+        r.counts(5, 1, 5, 4, 1, 4).state(0, 0, 4).state(4, 0, 0);
     }
 
     private static void enabledIfToAnother() {
@@ -588,6 +622,10 @@ public final class BoundariesTest {
             r.guard(0, 24, 10, 2).becomes(0, 0, 21, 1, 10).guard(1, 24, 10, 2).effect(1, 0, true, true);
             r.fair(1, how, true).failFor(list(23, 10, 2), 0, 1).drop(0, true).failFor(list(23, 10, 2), 0, 1);
             r.becomes(1, 0, 2).failFor(list(23, 10, 2));
+            // Round 0, 1, 2: taken by the step out of the first state alone, or into it.
+            r = new Run().sizes(3, 1, 1).guard(0, 1).becomes(0, 0, 20, 10, 1).fair(0, how, true);
+            r.guard(1, 27, 10).becomes(1, 0, 1).fair(1, how, true).failFor(list(0), 0, 1, 2);
+            r.guard(1, 23, 10, 2).becomes(1, 0, 0).fair(1, how, true).failFor(list(0), 0, 1, 2);
         }
     }
 
@@ -609,6 +647,9 @@ public final class BoundariesTest {
         Run r = new Run().sizes(5, 1, 1).begins(23, 10, 0).guard(0, 27, 23, 10, 2).becomes(0, 0, 20, 10, 1).fair(0, 2, true);
         r.failFor(list(0), 0, 1, 2).failFor(list(23, 10, 1), 2).failFor(list(23, 10, 2));
         r.failFor(list(24, 2, 10), 0, 1, 2).begins(0).failFor(list(0));
+        // From the last state over the first one, where it can't stay.
+        r = new Run().sizes(3, 1, 1).begins(23, 10, 2).guard(0, 27, 23, 10, 1).becomes(0, 0, 28, 10, 0, 1).fair(0, 1, true);
+        r.failFor(list(0), 0, 1, 2).failFor(list(27, 10), 1).failFor(list(23, 10, 1));
     }
 
     private static void alwaysEnabledAndNeverTaken() {
@@ -688,6 +729,10 @@ public final class BoundariesTest {
         r.leadsTo(0, 0, 2, 1).leadsTo(1, 0, 2, 0, 1).variable(0, 4, true).leadsTo(0, 0, 4, 3);
         r.leadsTo(1, 0, 4, 0, 1, 2, 3).begins(23, 10, 3).count(1, 1).variable(0, 3, true).count(1, 0);
         r.leadsTo(0, 2, 3, 0).variable(0, 5, true).count(1, 1).state(3, 0, 0);
+        // States that are no more are on no way: from 0 to 4 with five values, with four from 1 to 2.
+        r = new Run().variable(0, 5, true).begins(24, 10, 2).guard(0, 27, 10).becomes(0, 0, 4).guard(1, 23, 10, 1);
+        r.becomes(1, 0, 2).draft(24, 10, 4).invariant(1).traceIs(0, 4).fails(1).failingAre(4).empty();
+        r.variable(0, 4, true).counts(4, 2, 3, 1, 2, 1).draft(24, 10, 2).invariant(1).traceIs(1, 2).fails(1).failingAre(2);
     }
 
     private static void tokenRefused() {
@@ -1066,6 +1111,9 @@ public final class BoundariesTest {
             r.failFor(last).failFor(list(23, 20, 10, 20, 11, 12, 0)).guard(0, join(list(27), last)).becomes(0, 0, 20, 10, 1);
             r.becomes(0, 1, 20, 11, 23, 10, 4).becomes(0, 2, 20, 12, 25, 23, 10, 4, 23, 11, 4).fair(0, how, true);
             r.failFor(last).failFor(list(23, 20, 10, 20, 11, 12, 0), range(1, 125));
+            // Many small circles, those with v1 = 4 without Q.
+            r = new Run().sizes(5, 5, 5).guard(0, 1).becomes(0, 0, 20, 10, 1).fair(0, how, true);
+            r.failFor(list(27, 23, 11, 4), join(range(20, 25), range(45, 50), range(70, 75), range(95, 100), range(120, 125)));
         }
     }
 
@@ -1155,6 +1203,7 @@ public final class BoundariesTest {
         variablesHaveValues();
         numbersOfStates();
         twelveTokens();
+        twelveTokensSideBySide();
         intsThatWrap();
         numbersAndNames();
         oneOrZero();
